@@ -380,6 +380,13 @@ public final class LockLoomPromises {
         due("6: an empty one too", x.sound(), true);
         body(x, 0, FORK, 1);
         due("6: the last of many", x.sound(), false);
+        x = new LockLoom();
+        for (int b = 0; b < 8; b++) {
+            due("6: eight bodies", body(x, 0, CALL, b), b);
+            due("6: all right", x.sound(), true);
+        }
+        x.guard(1, 1);
+        due("6: all right", x.sound(), true);
     }
 
     // Promise 7
@@ -442,6 +449,18 @@ public final class LockLoomPromises {
         steps(x, 0, 0, 1, 2);
         due("7: races again", x.count(2), 1);
         race(x, 0, 3, 2, 0, 1);
+
+        // Thread 0 comes to know of thread 1 by a lock: in the next run it knows nothing of that,
+        // and nor does the lock.
+        x = with(0, FORK, 1, SYNC, 0, END, 0, WRITE, 0, SYNC, 0, END, 0);
+        body(x, 0, WRITE, 0, SYNC, 0, END, 0);
+        x.start(0, 1);
+        steps(x, 0, 1, 1, 1, 0, 0, 0, 0, 0);
+        due("7: before by the lock", x.count(2), 0);
+        x.start(0, 1);
+        steps(x, 0, 0, 0, 1, 0);
+        due("7: not before by a lock of an earlier run", x.count(2), 1);
+        race(x, 0, 4, 0, 0, 1);
     }
 
     // Promise 8
@@ -495,6 +514,8 @@ public final class LockLoomPromises {
         hasAfterSteps(x, 0, 0, 0, 20, 20, 120);
         hasAfterSteps(x, 1, 1, 1, 5, 5, 105);
         hasAfterSteps(x, 1, 0, 0, 100);
+        hasAfterSteps(x, 0, 1, 1, 11, 11, 111);
+        due("8: a block's number does not matter", x.count(0), 1);
         // An IF within each half of another one.
         body(x, 0, IF, 0, IF, 0, SET, 0, ELSE, 0, SET, 1, END, 0, ELSE, 0, IF, 0, SET, 2, ELSE, 0, SET, 3, END, 0, END, 0);
         hasAfterSteps(x, 2, 9, 9, 9, 0, 0, 0);
