@@ -1,958 +1,1228 @@
-/** Each promise of the document by its number: ordinary inputs, edges and wrong inputs. */
+/** The promises of the document by their numbers, sentence by sentence: each has a test of its own. */
 public final class LockLoomPromises {
-    private static final int READ = 0;
-    private static final int WRITE = 1;
-    private static final int ADD = 2;
-    private static final int SET = 3;
-    private static final int SYNC = 4;
-    private static final int END = 5;
-    private static final int IF = 6;
-    private static final int ELSE = 7;
-    private static final int WHILE = 8;
-    private static final int FORK = 9;
-    private static final int CALL = 10;
-    private static final int NONE = -1;
-    private static final int[] FAR = {Integer.MIN_VALUE, Integer.MIN_VALUE + 1, -2, -1, 64, 65, 1 << 30, Integer.MAX_VALUE};
+    private static final int NONE = Loom.NONE;
+    private static final int LOWEST = Loom.LOWEST;
+    private static final int HIGHEST = Loom.HIGHEST;
+    private static final int GOES_ON = Loom.GOES_ON;
+    private static final int WAITS = Loom.WAITS;
+    private static final int DONE = Loom.DONE;
 
-    private static int asked = 0;
-    private static int wrong = 0;
+    private static final int KINDS = 11;
+    /** How many numbers a kind can have, from 0 on; 0 if any int will do. */
+    private static final int[] LIMITS = {8, 8, 0, 0, 4, 0, 0, 0, 0, 8, 8};
 
     public static void main(String[] args) {
-        newObject();
-        statementKinds();
-        statementNumbers();
-        statementLimit();
+        newHasNoBodies();
+        newHasNoRun();
+        newCellsAreZero();
+        newCellsHaveNoGuards();
+        newTextIsEmpty();
+        newObjectsAreApart();
+
+        statementCounts();
+        statementOfNoKind();
+        statementOfNoNumber();
+        statementOfAnyNumber();
+        statementsFull();
+        statementsDuringARun();
+
         bodyNumbers();
-        bodyBlocks();
-        bodyEmptiesText();
-        guards();
-        checkAccesses();
-        checkHeldLocks();
-        checkForkAndCall();
-        soundness();
-        starting();
-        startingAgain();
-        stepRefusals();
-        stepArithmetic();
-        stepIfElse();
-        stepWhile();
-        stepLocks();
-        stepFork();
-        stepForkLimit();
-        stepCall();
-        stepCallLimit();
-        stepLimit();
-        hasAndCell();
-        holders();
-        states();
-        counts();
-        racesOfKinds();
-        racesAndForks();
-        racesAndLocks();
-        racesAreKept();
-        stuckness();
-        System.out.println(asked + " answers asked, " + wrong + " not as due");
-        if (wrong != 0) {
-            System.exit(1);
-        }
-    }
+        bodyOfEmptyText();
+        bodyLowestFourBits();
+        bodyLeavesNoText();
+        bodyWithEightThere();
+        bodyOfWrongBlocks();
+        bodiesKeepTheirTexts();
 
-    private static void due(String what, long got, long want) {
-        asked++;
-        if (got != want) {
-            wrong++;
-            System.out.println(what + " answered " + got + ", due is " + want);
-        }
-    }
+        guardTrue();
+        guardFalse();
+        guardAnew();
 
-    private static void due(String what, boolean got, boolean want) {
-        due(what, got ? 1 : 0, want ? 1 : 0);
-    }
+        checkFirst();
+        checkSize();
+        checkNone();
+        checkAnew();
 
-    private static void write(LockLoom x, int... kindsAndNumbers) {
-        for (int i = 0; i < kindsAndNumbers.length; i += 2) {
-            due("statement " + i / 2, x.statement(kindsAndNumbers[i], kindsAndNumbers[i + 1]), i / 2 + 1);
-        }
-    }
+        soundAll();
+        soundOfEachBody();
+        soundOfNone();
 
-    private static int body(LockLoom x, int requires, int... kindsAndNumbers) {
-        write(x, kindsAndNumbers);
-        return x.body(requires);
-    }
+        startBegins();
+        startEndsAnother();
+        startForgetsClocks();
+        startForgetsDepthAndTimes();
+        startFalse();
+        startLeavesTheRest();
 
-    private static LockLoom with(int requires, int... kindsAndNumbers) {
-        LockLoom x = new LockLoom();
-        due("the first body", body(x, requires, kindsAndNumbers), 0);
-        return x;
-    }
+        stepOne();
+        stepWaits();
+        stepWithoutARun();
+        stepOfNoThread();
+        stepOfADoneThread();
+        stepsFull();
 
-    private static void steps(LockLoom x, int... threads) {
-        for (int i = 0; i < threads.length; i++) {
-            due("step " + i + " of thread " + threads[i], x.step(threads[i]), 1);
-        }
-    }
-
-    private static void race(LockLoom x, int i, int step, int thread, int cell, int write) {
-        due("race " + i + ", step", x.race(i, 0), step);
-        due("race " + i + ", thread", x.race(i, 1), thread);
-        due("race " + i + ", cell", x.race(i, 2), cell);
-        due("race " + i + ", write", x.race(i, 3), write);
+        hasOfThreads();
+        cellOfARun();
+        holderOfALock();
+        stateOfThreads();
+        countOfARun();
+        raceParts();
+        racesAsTheyCame();
+        racesBeyond64();
+        stuckOrNot();
+        stuckNotDone();
+        Loom.end();
     }
 
     // Promise 1
 
-    private static void newObject() {
-        LockLoom x = new LockLoom();
-        due("1: NONE", LockLoom.NONE, -1);
-        due("1: sound", x.sound(), true);
-        due("1: stuck", x.stuck(), false);
-        due("1: check", x.check(0), NONE);
-        due("1: start", x.start(0, 3), false);
-        due("1: step", x.step(0), NONE);
-        due("1: has", x.has(0), 0);
-        due("1: state", x.state(0), NONE);
-        due("1: race", x.race(0, 0), NONE);
-        for (int what = -1; what <= 3; what++) {
-            due("1: count", x.count(what), NONE);
+    private static void newHasNoBodies() {
+        Loom x = new Loom("1: No bodies");
+        for (int b = 0; b < 8; b++) {
+            x.check(b, NONE);
+            x.noStart(b, 0);
         }
-        for (int c = 0; c < 8; c++) {
-            due("1: cell", x.cell(c), 0);
+        x.sound(true);
+        x.body("");
+    }
+
+    private static void newHasNoRun() {
+        Loom x = new Loom("1: no run");
+        for (int i = 0; i < 6; i++) {
+            x.count(i, NONE);
+            x.noStep(i);
+            x.has(i, 0);
+            x.state(i, NONE);
+            x.noRace(i);
         }
         for (int l = 0; l < 4; l++) {
-            due("1: holder", x.holder(l), NONE);
+            x.holder(l, NONE);
         }
-        due("1: text", x.statement(SET, 0), 1);
-        x = new LockLoom();
+        x.stuck(false);
+    }
+
+    private static void newCellsAreZero() {
+        Loom x = new Loom("1: cells are 0");
         for (int c = 0; c < 8; c++) {
-            due("1: a body", body(x, 0, READ, c), c);
-            due("1: no guards, a READ is right", x.check(c), 1);
+            x.cell(c, 0);
         }
-        x = new LockLoom();
+    }
+
+    private static void newCellsHaveNoGuards() {
         for (int c = 0; c < 8; c++) {
-            body(x, 15, WRITE, c);
-            due("1: no guards, a WRITE is not right", x.check(c), 0);
+            Loom x = new Loom("1: without guards");
+            x.body("READ " + c);
+            x.check(0, 1);
+            x.body(15, "WRITE " + c);
+            x.check(1, 0);
         }
+    }
+
+    private static void newTextIsEmpty() {
+        Loom x = new Loom("1: The text has no statements");
+        x.statement(3, 0, 1);
+        x = new Loom("1: The text has no statements, and so has a body of it");
+        x.body("");
+        x.check(0, 0);
+    }
+
+    private static void newObjectsAreApart() {
+        Loom x = new Loom("1: A new object, beside another one");
+        x.guard(0, 1);
+        x.body("WRITE 0, SYNC 0, WRITE 1, END");
+        x.text("SET 1");
+        x.start(0, 5);
+        x.steps(0, 0);
+        Loom y = new Loom("1: A new object");
+        y.cell(0, 0);
+        y.holder(0, NONE);
+        y.check(0, NONE);
+        y.count(0, NONE);
+        y.statement(0, 0, 1);
+        y.body("");
+        y.check(0, 1);
+        y.start(0, 7);
+        y.steps(0);
+        x.check(0, 0);
+        x.cell(0, 5);
+        x.holder(0, 0);
+        x.has(0, 5);
+        x.stepsDone(2);
+        x.text("SET 2");
     }
 
     // Promise 2
 
-    private static void statementKinds() {
-        LockLoom x = new LockLoom();
-        for (int kind = 0; kind <= 10; kind++) {
-            due("2: kind " + kind, x.statement(kind, 0), kind + 1);
+    private static void statementCounts() {
+        Loom x = new Loom("2: A statement more in the text: how many it has");
+        for (int kind = 0; kind < KINDS; kind++) {
+            x.statement(kind, 0, kind + 1);
         }
-        due("2: kind 11", x.statement(11, 0), NONE);
-        for (int far : FAR) {
-            due("2: kind " + far, x.statement(far, 0), NONE);
-        }
-        due("2: what did not come does not count", x.statement(SET, 0), 12);
+        x.statement(0, 0, 12);
     }
 
-    private static void statementNumbers() {
-        LockLoom x = new LockLoom();
-        int size = 0;
-        int[] limits = {8, 8, 0, 0, 4, 0, 0, 0, 0, 8, 8};
-        for (int kind = 0; kind <= 10; kind++) {
-            if (limits[kind] == 0) {
+    private static void statementOfNoKind() {
+        Loom x = new Loom("2: NONE, and it does not come, if there is no such kind");
+        x.text("SET 1");
+        for (int kind : Loom.outside(KINDS)) {
+            x.statement(kind, 0, NONE);
+            x.statement(kind, -1, NONE);
+        }
+        x.text("SET 2");
+        x.body("");
+        x.check(0, 2);
+        x.path(0, 0, 1, 2);
+    }
+
+    private static void statementOfNoNumber() {
+        for (int kind = 0; kind < KINDS; kind++) {
+            if (LIMITS[kind] == 0) {
                 continue;
             }
-            for (int far : FAR) {
-                due("2: kind " + kind + " of " + far, x.statement(kind, far), NONE);
+            Loom x = new Loom("2: NONE, and it does not come, if the number is none that it can have: kind " + kind);
+            for (int number : Loom.outside(LIMITS[kind])) {
+                x.statement(kind, number, NONE);
             }
-            due("2: kind " + kind + " over its limit", x.statement(kind, limits[kind]), NONE);
-            for (int number = 0; number < limits[kind]; number++) {
-                due("2: kind " + kind + " of " + number, x.statement(kind, number), ++size);
+            for (int number = 0; number < LIMITS[kind]; number++) {
+                x.statement(kind, number, number + 1);
             }
+            for (int number : Loom.outside(LIMITS[kind])) {
+                x.statement(kind, number, NONE);
+            }
+            x.statement(3, 0, LIMITS[kind] + 1);
         }
-        x = new LockLoom();
-        size = 0;
-        for (int kind : new int[] {ADD, SET, END, IF, ELSE, WHILE}) {
-            for (int far : FAR) {
-                due("2: kind " + kind + " of any number", x.statement(kind, far), ++size);
-            }
-        }
+        Loom x = new Loom("2: NONE, and it does not come, among others");
+        x.text("SET 1");
+        x.statement(0, 8, NONE);
+        x.statement(9, -1, NONE);
+        x.body("SET 2");
+        x.check(0, 2);
+        x.path(0, 0, 1, 2);
     }
 
-    private static void statementLimit() {
-        LockLoom x = new LockLoom();
-        for (int i = 1; i <= 64; i++) {
-            due("2: statement", x.statement(ADD, 1), i);
+    private static void statementOfAnyNumber() {
+        for (int kind = 2; kind < 9; kind++) {
+            if (LIMITS[kind] != 0) {
+                continue;
+            }
+            Loom x = new Loom("2: of 5 to 8 it does not matter, and ADD, SET have any: kind " + kind);
+            int size = 0;
+            for (int number : Loom.outside(4)) {
+                x.statement(kind, number, ++size);
+            }
         }
-        due("2: a 65th", x.statement(ADD, 1), NONE);
-        due("2: a 66th", x.statement(END, 1), NONE);
-        due("2: 64 are a body", x.body(0), 0);
-        due("2: its size", x.check(0), 64);
-        due("2: the next text", x.statement(ADD, 1), 1);
-        due("2: start", x.start(0, 0), true);
-        for (int i = 0; i < 64; i++) {
-            due("2: step", x.step(0), 1);
+        Loom x = new Loom("2: of 5 to 8 it does not matter, in a run neither");
+        x.statement(6, 0, 1);
+        x.statement(3, 0, 2);
+        x.statement(7, 1, 3);
+        x.statement(3, 4, 4);
+        x.statement(5, -3, 5);
+        x.statement(8, 0, 6);
+        x.statement(2, -1, 7);
+        x.statement(5, 99, 8);
+        x.body("");
+        x.path(0, 1, 1, 0, 0, 0);
+        x.path(0, 0, 0, 4, 4, 4, 3, 3, 3, 2, 2, 2, 1, 1, 1, 0, 0, 0);
+        // Nor where they would be numbers of a body, of a cell or of a lock.
+        x.statement(6, 0, 1);
+        x.statement(8, 0, 2);
+        x.statement(3, 0, 3);
+        x.statement(5, 0, 4);
+        x.statement(7, 0, 5);
+        x.statement(5, 0, 6);
+        x.body("");
+        x.path(1, 9, 9, 9, 0, 0, 0, 0);
+        x.threads(1);
+        x.cell(0, 0);
+        x.holder(0, NONE);
+    }
+
+    private static void statementsFull() {
+        Loom x = new Loom("2: NONE, and it does not come, if there are 64");
+        x.text(63, "ADD 1");
+        x.statement(2, 1, 64);
+        for (int kind = 0; kind < KINDS; kind++) {
+            x.statement(kind, 0, NONE);
         }
-        due("2: done", x.state(0), 2);
-        due("2: all were done", x.has(0), 64);
+        x.statement(11, 0, NONE);
+        x.body("");
+        x.check(0, 64);
+        x.text("ADD 1");
+    }
+
+    private static void statementsDuringARun() {
+        Loom x = new Loom("2: A statement more in the text, whatever else is called");
+        x.body("SET 1, SET 2");
+        x.text("SET 3");
+        x.start(0, 0);
+        x.text("SET 4");
+        x.steps(0);
+        x.noStart(1, 0);
+        x.guard(0, 0);
+        x.check(0, 2);
+        x.text("SET 5");
+        x.steps(0);
+        x.has(0, 2);
+        x.body("");
+        x.path(1, 0, 3, 4, 5);
     }
 
     // Promise 3
 
     private static void bodyNumbers() {
-        LockLoom x = new LockLoom();
+        Loom x = new Loom("3: The text is a body: its number");
         for (int b = 0; b < 8; b++) {
-            due("3: number", body(x, 0, SET, b), b);
+            x.check(b, NONE);
+            x.text(b, "SET 1");
+            x.body("");
+            x.check(b, b);
         }
-        due("3: a ninth", body(x, 0, SET, 9), NONE);
-        due("3: its text is gone", x.statement(SET, 1), 1);
-        due("3: a tenth", x.body(0), NONE);
-        due("3: no body 8", x.check(8), NONE);
-        for (int b = 0; b < 8; b++) {
-            due("3: start", x.start(b, 20), true);
-            steps(x, 0);
-            due("3: each has its own text", x.has(0), b);
-        }
-        x = new LockLoom();
-        due("3: an empty body", x.body(0), 0);
-        due("3: another one", x.body(0), 1);
-        due("3: its size", x.check(1), 0);
-        int[] requires = {1, 2, 4, 8, 16, -1};
-        int[] lowest = {1, 2, 4, 8, 0, 15};
-        for (int i = 0; i < requires.length; i++) {
-            for (int held = 0; held < 16; held++) {
-                x = with(requires[i], SET, 0);
-                body(x, held, CALL, 0);
-                due("3: the lowest four bits", x.check(1), (lowest[i] & ~held) == 0 ? 1 : 0);
+    }
+
+    private static void bodyOfEmptyText() {
+        Loom x = new Loom("3: The text is a body, though it has no statements");
+        x.body(15, "");
+        x.body(0, "");
+        x.check(0, 0);
+        x.check(1, 0);
+        x.start(1, 6);
+        x.state(0, DONE);
+    }
+
+    private static void bodyLowestFourBits() {
+        int[] requires = {0, 1, 2, 4, 8, 15, 16, 17, 24, 32, 1 << 30, 240, -1, -2, -16, -9, LOWEST, LOWEST + 5, HIGHEST};
+        for (int required : requires) {
+            for (int l = 0; l < 4; l++) {
+                Loom x = new Loom("3: a body, that requires the locks of the lowest four bits: " + required);
+                boolean lock = (required >> l & 1) == 1;
+                x.guard(0, l);
+                x.body(required, "WRITE 0");
+                x.check(0, lock ? 1 : 0);
+                x.body(15 - (1 << l), "CALL 0");
+                x.check(1, lock ? 0 : 1);
+                x.body("FORK 0");
+                x.check(2, required % 16 == 0 ? 1 : 0);
             }
         }
     }
 
-    private static void bodyBlocks() {
-        int[][] good = {
-            {SYNC, 0, END, 0}, {IF, 0, END, 0}, {WHILE, 0, END, 0}, {IF, 0, ELSE, 0, END, 0},
-            {IF, 0, IF, 0, ELSE, 0, END, 0, ELSE, 0, END, 0},
-            {IF, 0, ELSE, 0, IF, 0, ELSE, 0, END, 0, END, 0},
-            {SYNC, 0, SYNC, 0, WHILE, 0, IF, 0, SYNC, 1, END, 0, ELSE, 0, END, 0, END, 0, END, 0, END, 0},
-            {IF, 0, SYNC, 0, END, 0, ELSE, 0, WHILE, 0, END, 0, END, 0, IF, 0, ELSE, 0, END, 0},
-        };
-        int[][] bad = {
-            {END, 0}, {ELSE, 0}, {SYNC, 0}, {IF, 0}, {WHILE, 0}, {IF, 0, ELSE, 0}, {ELSE, 0, END, 0},
-            {SYNC, 0, ELSE, 0, END, 0}, {WHILE, 0, ELSE, 0, END, 0}, {IF, 0, ELSE, 0, ELSE, 0, END, 0},
-            {IF, 0, SYNC, 0, ELSE, 0, END, 0, END, 0}, {IF, 0, WHILE, 0, ELSE, 0, END, 0, END, 0},
-            {IF, 0, END, 0, ELSE, 0}, {IF, 0, END, 0, ELSE, 0, END, 0}, {END, 0, SYNC, 0},
-            {IF, 0, ELSE, 0, END, 0, ELSE, 0, END, 0}, {SYNC, 0, END, 0, END, 0}, {SYNC, 0, SYNC, 0, END, 0},
-            {IF, 0, ELSE, 0, IF, 0, ELSE, 0, END, 0, ELSE, 0, END, 0},
-        };
-        LockLoom x = new LockLoom();
-        for (int[] blocks : bad) {
-            due("3: blocks as they must not be", body(x, 0, blocks), NONE);
-            due("3: no body came", x.check(0), NONE);
-        }
-        for (int i = 0; i < good.length; i++) {
-            due("3: blocks as they must be", body(x, 0, good[i]), i);
-        }
-        x = new LockLoom();
-        for (int i = 0; i < 32; i++) {
-            due("3: deep", x.statement(SYNC, i % 4), i + 1);
-        }
-        for (int i = 32; i < 64; i++) {
-            due("3: deep", x.statement(END, 0), i + 1);
-        }
-        due("3: 32 blocks, one within the other", x.body(0), 0);
+    private static void bodyLeavesNoText() {
+        Loom x = new Loom("3: The text (which has no statements then, whatever comes of it)");
+        x.body("SET 1, SET 2");
+        x.statement(5, 0, 1);
+        x.noBody("");
+        x.statement(6, 0, 1);
+        x.noBody("SET 3");
+        x.statement(3, 4, 1);
+        x.body("");
+        x.check(1, 1);
+        x.path(1, 0, 4);
+        x.body("");
+        x.check(2, 0);
+        x.text(64, "SET 1");
+        x.body("");
+        x.statement(3, 1, 1);
     }
 
-    private static void bodyEmptiesText() {
-        LockLoom x = with(0, SET, 1, SET, 2);
-        due("3: empty after a body", x.statement(END, 0), 1);
-        due("3: not as it must be", x.body(0), NONE);
-        due("3: empty after none", x.statement(SET, 5), 1);
-        due("3: the next number", x.body(0), 1);
-        due("3: its size", x.check(1), 1);
-        due("3: the first one's size", x.check(0), 2);
+    private static void bodyWithEightThere() {
+        Loom x = new Loom("3: NONE, and there is none, if there are 8");
+        for (int b = 0; b < 7; b++) {
+            x.body("SET " + b);
+        }
+        x.body("CALL 7");
+        int[] before = x.look();
+        x.noBody("WRITE 0");
+        x.statement(3, 9, 1);
+        x.noBody("");
+        x.noBody("");
+        x.noBody("END");
+        x.looksLike(before);
+        x.check(8, NONE);
+        x.noStart(8, 0);
+        x.statement(3, 9, 1);
+        x.path(6, 50, 6);
+    }
+
+    private static void bodyOfWrongBlocks() {
+        String[] wrong = {
+            "SYNC 0", "IF", "WHILE", "END", "ELSE", "IF, ELSE", "ELSE, END", "IF, ELSE, ELSE, END", "SYNC 0, ELSE, END",
+            "WHILE, ELSE, END", "IF, SYNC 0, ELSE, END, END", "IF, END, ELSE, END", "SYNC 0, END, END", "SYNC 0, SYNC 0, END",
+            "END, SYNC 0", "IF, IF, END",
+        };
+        for (String blocks : wrong) {
+            Loom x = new Loom("3: NONE, and there is none, if blocks are not as they must be: " + blocks);
+            x.body("SET 5");
+            int[] before = x.look();
+            x.noBody(blocks);
+            x.looksLike(before);
+            x.check(1, NONE);
+            x.noStart(1, 0);
+            // Nothing of it is left in the next one.
+            x.body("SYNC 0, IF, WHILE, SET 0, END, ELSE, END, END");
+            x.check(1, 8);
+            x.path(1, 2, 2, 2, 2, 0, 0, 0, 0, 0);
+        }
+    }
+
+    private static void bodiesKeepTheirTexts() {
+        Loom x = new Loom("3: The text is a body, and stays it");
+        for (int b = 0; b < 8; b++) {
+            x.body(b, "SET " + (b + 10) + ", ADD " + b);
+        }
+        for (int b = 0; b < 8; b++) {
+            x.path(b, 0, b + 10, 2 * b + 10);
+        }
     }
 
     // Promise 4
 
-    private static void guards() {
-        LockLoom x = with(0, READ, 7);
-        for (int c = 0; c < 8; c++) {
-            for (int l = -1; l < 4; l++) {
-                due("4: guard", x.guard(c, l), true);
+    private static void guardTrue() {
+        for (int cell = 0; cell < 8; cell++) {
+            Loom x = new Loom("4: A cell's guard is a lock, or none (-1): true");
+            x.body("READ " + cell);
+            for (int l = 0; l < 4; l++) {
+                x.body(1 << l, "WRITE " + cell);
             }
-            due("4: no lock 4", x.guard(c, 4), false);
-            for (int far : FAR) {
-                if (far != -1) {
-                    due("4: no such lock", x.guard(c, far), false);
+            for (int lock = -1; lock < 4; lock++) {
+                x.guard(cell, lock);
+                x.check(0, lock == NONE ? 1 : 0);
+                for (int l = 0; l < 4; l++) {
+                    x.check(1 + l, lock == l ? 1 : 0);
                 }
-                due("4: no such cell", x.guard(far, 0), false);
-                due("4: no such cell, and no guard", x.guard(far, -1), false);
             }
         }
-        due("4: no cell 8", x.guard(8, 0), false);
-        due("4: a refused guard changes nothing", x.check(0), 0);
-        due("4: none again", x.guard(7, -1), true);
-        due("4: without a guard", x.check(0), 1);
-        due("4: refused", x.guard(7, 4), false);
-        due("4: still without", x.check(0), 1);
-        due("4: another cell's", x.guard(6, 0), true);
-        due("4: still without", x.check(0), 1);
-        due("4: guarded", x.guard(7, 2), true);
-        due("4: a start leaves guards", x.start(0, 0), true);
-        due("4: still guarded", x.check(0), 0);
+    }
+
+    private static void guardFalse() {
+        Loom x = new Loom("4: false if there is no such cell");
+        for (int c = 0; c < 8; c++) {
+            x.body("READ " + c);
+        }
+        int[] before = x.look();
+        for (int cell : Loom.outside(8)) {
+            x.noGuard(cell, 0);
+            x.noGuard(cell, 3);
+            x.noGuard(cell, -1);
+            x.noGuard(cell, 4);
+        }
+        x.looksLike(before);
+
+        x = new Loom("4: false if there is no such lock");
+        x.body(4, "WRITE 7");
+        x.body("READ 0");
+        x.guard(7, 2);
+        before = x.look();
+        for (int lock : Loom.outside(4)) {
+            if (lock != NONE) {
+                x.noGuard(7, lock);
+                x.noGuard(0, lock);
+            }
+        }
+        x.looksLike(before);
+        x.check(0, 1);
+        x.check(1, 1);
+    }
+
+    private static void guardAnew() {
+        Loom x = new Loom("4: A cell's guard is a lock: the last one");
+        x.body(2, "WRITE 3");
+        x.guard(3, 1);
+        x.check(0, 1);
+        x.guard(3, 0);
+        x.check(0, 0);
+        x.guard(4, 1);
+        x.check(0, 0);
+        x.guard(3, 1);
+        x.guard(3, 1);
+        x.check(0, 1);
+        x.guard(3, NONE);
+        x.check(0, 0);
+        // A run neither asks for guards nor changes them.
+        x.guard(3, 1);
+        x.start(0, 6);
+        x.guard(3, 2);
+        x.steps(0);
+        x.cell(3, 6);
+        x.check(0, 0);
+        x.start(0, 6);
+        x.check(0, 0);
     }
 
     // Promise 5
 
-    private static void checkAccesses() {
-        for (int lock = -1; lock < 4; lock++) {
-            for (int held = 0; held < 16; held++) {
-                LockLoom x = new LockLoom();
-                body(x, held, SET, 0, READ, 3);
-                body(x, held, ADD, 0, WRITE, 3);
-                due("5: guard", x.guard(3, lock), true);
-                boolean isHeld = lock >= 0 && (held >> lock & 1) == 1;
-                due("5: READ", x.check(0), isHeld || lock < 0 ? 2 : 1);
-                due("5: WRITE", x.check(1), isHeld ? 2 : 1);
+    private static void checkFirst() {
+        Loom x = new Loom("5: The first statement of a body, from 0 on, that is not right");
+        x.body("READ 0, READ 1, WRITE 2, WRITE 3");
+        x.check(0, 2);
+        x.guard(1, 0);
+        x.check(0, 1);
+        x.guard(0, 0);
+        x.check(0, 0);
+        x.text(63, "SET 0");
+        x.body("WRITE 2");
+        x.check(1, 63);
+    }
+
+    private static void checkSize() {
+        Loom x = new Loom("5: its size if all are");
+        for (int size = 0; size < 8; size++) {
+            x.text(size, "SET 0");
+            x.body("");
+            x.check(size, size);
+        }
+        x = new Loom("5: its size if all are: 64");
+        x.text(64, "READ 0");
+        x.body("");
+        x.check(0, 64);
+    }
+
+    private static void checkNone() {
+        Loom x = new Loom("5: NONE if there is no such body");
+        for (int b = 0; b <= 8; b++) {
+            for (int body : Loom.outside(b)) {
+                x.check(body, NONE);
+            }
+            if (b < 8) {
+                x.body("SET 1");
             }
         }
-        LockLoom x = with(0, READ, 0, WRITE, 1, WRITE, 2);
-        due("5: the first one", x.check(0), 1);
-        x.guard(0, 0);
-        due("5: an earlier one", x.check(0), 0);
-        due("5: no such body", x.check(1), NONE);
-        for (int far : FAR) {
-            due("5: no such body", x.check(far), NONE);
-        }
+        x.check(7, 1);
+        // A text is no body yet.
+        x = new Loom("5: NONE if there is no such body, but a text");
+        x.text("SET 1");
+        x.check(0, NONE);
     }
 
-    private static void checkHeldLocks() {
-        LockLoom x = with(0, SYNC, 1, WRITE, 0, END, 0, WRITE, 0);
-        x.guard(0, 1);
-        due("5: behind the SYNC", x.check(0), 3);
-        body(x, 0, SYNC, 1, SYNC, 1, END, 0, WRITE, 0, END, 0, WRITE, 0);
-        due("5: the same lock twice", x.check(1), 5);
-        body(x, 2, SYNC, 1, END, 0, WRITE, 0);
-        due("5: required as well", x.check(2), 3);
-        body(x, 0, SYNC, 0, WRITE, 0, END, 0);
-        due("5: another lock", x.check(3), 1);
-        body(x, 0, SYNC, 1, IF, 0, WRITE, 0, ELSE, 0, WRITE, 0, END, 0, WHILE, 0, WRITE, 0, END, 0, WRITE, 0, END, 0);
-        due("5: blocks within", x.check(4), 11);
-        body(x, 0, IF, 0, SYNC, 1, WRITE, 0, END, 0, ELSE, 0, WRITE, 0, END, 0);
-        due("5: not in the ELSE", x.check(5), 5);
-        body(x, 0, SYNC, 1, SYNC, 2, WRITE, 0, END, 0, WRITE, 0, SYNC, 0, END, 0, WRITE, 0, END, 0, READ, 0);
-        due("5: several locks", x.check(6), 9);
-        body(x, 0, WHILE, 0, SYNC, 1, END, 0, READ, 0, END, 0);
-        due("5: behind it, in a WHILE", x.check(7), 3);
-    }
-
-    private static void checkForkAndCall() {
-        LockLoom x = with(0, FORK, 1, CALL, 2, SYNC, 2, CALL, 3, CALL, 4, END, 0);
-        due("5: FORK of none", x.check(0), 0);
-        body(x, 0, SET, 1);
-        due("5: CALL of none", x.check(0), 1);
-        body(x, 0, WRITE, 0);
-        due("5: CALL of one that is wrong itself", x.check(0), 3);
-        body(x, 4, SET, 1);
-        due("5: CALL with its lock held", x.check(0), 4);
-        body(x, 6, SET, 1);
-        due("5: CALL with one of two held", x.check(0), 4);
-        body(x, 2, SYNC, 2, CALL, 4, END, 0, CALL, 4);
-        due("5: CALL with both, then with one", x.check(5), 3);
-        body(x, 15, FORK, 0, FORK, 3);
-        due("5: FORK of one that requires", x.check(6), 1);
-        body(x, 0, FORK, 7, CALL, 7, SYNC, 0, FORK, 7, CALL, 7, END, 0);
-        due("5: FORK and CALL of itself", x.check(7), 6);
+    private static void checkAnew() {
+        Loom x = new Loom("5: what is right by the guards and bodies that there are");
+        x.body("CALL 1, FORK 2, SYNC 3, WRITE 5, END");
+        x.check(0, 0);
+        x.body("");
+        x.check(0, 1);
+        x.body("");
+        x.check(0, 3);
+        x.guard(5, 3);
+        x.check(0, 5);
+        x.guard(5, 2);
+        x.check(0, 3);
+        x.start(0, 0);
+        x.steps(0);
+        x.check(0, 3);
     }
 
     // Promise 6
 
-    private static void soundness() {
-        LockLoom x = with(0, READ, 0);
-        due("6: one that is right", x.sound(), true);
+    private static void soundAll() {
+        Loom x = new Loom("6: Whether all statements of all bodies are right");
+        x.body("READ 0");
+        x.sound(true);
         x.guard(0, 3);
-        due("6: not right", x.sound(), false);
-        body(x, 8, WRITE, 0);
-        due("6: the first one is not right", x.sound(), false);
-        x.guard(0, -1);
-        due("6: the last one is not right", x.sound(), false);
-        x = with(0, SYNC, 3, CALL, 1, END, 0);
-        due("6: no body 1 yet", x.sound(), false);
-        body(x, 8, WRITE, 0, SET, 1);
-        due("6: no guard", x.sound(), false);
+        x.sound(false);
+        x.body(8, "WRITE 0");
+        x.sound(false);
+        x.guard(0, NONE);
+        x.sound(false);
+        x = new Loom("6: Whether all statements of all bodies are right, by bodies that come later");
+        x.body("SYNC 3, CALL 1, END");
+        x.sound(false);
+        x.body(8, "WRITE 0, SET 1");
+        x.sound(false);
         x.guard(0, 3);
-        due("6: all right", x.sound(), true);
-        x.body(0);
-        due("6: an empty one too", x.sound(), true);
-        body(x, 0, FORK, 1);
-        due("6: the last of many", x.sound(), false);
-        x = new LockLoom();
-        for (int b = 0; b < 8; b++) {
-            due("6: eight bodies", body(x, 0, CALL, b), b);
-            due("6: all right", x.sound(), true);
+        x.sound(true);
+        x.body("");
+        x.sound(true);
+        x.body("FORK 1");
+        x.sound(false);
+    }
+
+    private static void soundOfEachBody() {
+        for (int wrong = 0; wrong < 8; wrong++) {
+            Loom x = new Loom("6: all statements of all bodies, of body " + wrong + " too");
+            for (int b = 0; b < 8; b++) {
+                x.body("SET 1, READ " + b);
+                x.sound(true);
+            }
+            x.guard(wrong, 0);
+            x.sound(false);
+            x.guard(wrong, NONE);
+            x.sound(true);
         }
-        x.guard(1, 1);
-        due("6: all right", x.sound(), true);
+        Loom x = new Loom("6: all statements of all bodies, the 64th too");
+        x.text(63, "SET 1");
+        x.body("READ 0");
+        x.sound(true);
+        x.guard(0, 0);
+        x.sound(false);
+    }
+
+    private static void soundOfNone() {
+        Loom x = new Loom("6: all statements of all bodies, where there are none");
+        x.sound(true);
+        x.text("WRITE 0");
+        x.sound(true);
+        x.noBody("END");
+        x.sound(true);
+        x.body("");
+        x.sound(true);
+        x.body(15, "");
+        x.sound(true);
     }
 
     // Promise 7
 
-    private static void starting() {
-        LockLoom x = with(15, SET, 1);
-        for (int far : FAR) {
-            due("7: no such body", x.start(far, 0), false);
+    private static void startBegins() {
+        Loom x = new Loom("7: thread 0 begins a body with a number: true");
+        x.body(15, "ADD 1, ADD 2");
+        x.body("ADD 5");
+        for (int has : new int[] {0, 3, -1, LOWEST, HIGHEST - 3}) {
+            for (int b = 0; b < 2; b++) {
+                x.start(b, has);
+                x.has(0, has);
+                x.threads(1);
+                x.stepsDone(0);
+                x.races(0);
+                x.state(0, GOES_ON);
+                x.state(1, NONE);
+                x.steps(0);
+                x.has(0, has + (b == 0 ? 1 : 5));
+            }
         }
-        due("7: no body 1", x.start(1, 0), false);
-        due("7: no run", x.count(0), NONE);
-        due("7: start", x.start(0, Integer.MIN_VALUE), true);
-        due("7: with a number", x.has(0), Integer.MIN_VALUE);
-        due("7: one thread", x.count(0), 1);
-        due("7: no steps", x.count(1), 0);
-        due("7: no races", x.count(2), 0);
-        due("7: it can go on", x.state(0), 0);
-        due("7: what it requires is not taken", x.holder(0), NONE);
-        x.body(0);
-        due("7: an empty body", x.start(1, 5), true);
-        due("7: is done", x.state(0), 2);
-        due("7: and has", x.has(0), 5);
+        // What a body requires is not taken by a run.
+        x.start(0, 0);
+        for (int l = 0; l < 4; l++) {
+            x.holder(l, NONE);
+        }
     }
 
-    private static void startingAgain() {
-        LockLoom x = with(0, FORK, 0, SYNC, 1, WRITE, 4, SET, 7, END, 0);
-        due("7: start", x.start(0, 3), true);
-        steps(x, 0, 0, 0, 1);
-        due("7: taken", x.holder(1), 0);
-        due("7: waits", x.step(1), 0);
-        steps(x, 0, 0, 2, 2, 2);
-        due("7: refused", x.start(1, 9), false);
-        due("7: nothing happened, cell", x.cell(4), 3);
-        due("7: nothing happened, threads", x.count(0), 4);
-        due("7: nothing happened, steps", x.count(1), 9);
-        due("7: nothing happened, lock", x.holder(1), 2);
-        due("7: again", x.start(0, 8), true);
-        due("7: cells are 0", x.cell(4), 0);
-        due("7: locks are free", x.holder(1), NONE);
-        due("7: one thread", x.count(0), 1);
-        due("7: no steps", x.count(1), 0);
-        due("7: the others are gone", x.state(1), NONE);
-        due("7: has", x.has(0), 8);
-        due("7: the others have nothing", x.has(1), 0);
-        steps(x, 0, 0, 0);
-        due("7: runs as before", x.cell(4), 8);
-
-        // Thread 1 writes, then a new run has nothing of its accesses, clocks and races.
-        x = with(0, WRITE, 0);
-        body(x, 0, FORK, 0, FORK, 0);
+    private static void startEndsAnother() {
+        Loom x = new Loom("7: A run begins (another one ends): cells are 0, locks free");
+        for (int c = 0; c < 8; c++) {
+            x.text("WRITE " + c);
+        }
+        x.body("FORK 1, SYNC 0, SYNC 1, SYNC 2, SYNC 3, FORK 1, END, END, END, END");
+        x.body("WRITE 0, WRITE 7");
+        x.start(0, 9);
+        x.stepsOf(0, 14);
+        x.steps(1, 2, 1);
+        x.threads(3);
+        x.races(1);
+        x.cell(7, 9);
+        x.holder(3, 0);
+        x.start(0, 4);
+        for (int c = 0; c < 8; c++) {
+            x.cell(c, 0);
+        }
+        for (int l = 0; l < 4; l++) {
+            x.holder(l, NONE);
+        }
+        x.threads(1);
+        x.stepsDone(0);
+        x.races(0);
+        x.noRace(0);
+        x.has(0, 4);
+        for (int t = 1; t < 3; t++) {
+            x.has(t, 0);
+            x.state(t, NONE);
+            x.noStep(t);
+        }
+        x.steps(0);
+        x.cell(0, 4);
+        x.cell(1, 0);
+        // A run of threads that are done, and one that is stuck, end as well.
+        x.body("");
+        x.start(2, 1);
+        x.state(0, DONE);
         x.start(1, 1);
-        steps(x, 0, 0, 1, 2);
-        due("7: a race", x.count(2), 1);
-        x.start(0, 1);
-        due("7: no races", x.count(2), 0);
-        due("7: none there", x.race(0, 0), NONE);
-        steps(x, 0);
-        due("7: earlier runs do not race", x.count(2), 0);
-        x.start(1, 1);
-        steps(x, 0, 0, 1, 2);
-        due("7: races again", x.count(2), 1);
-        race(x, 0, 3, 2, 0, 1);
+        x.state(0, GOES_ON);
+    }
 
-        // Thread 0 comes to know of thread 1 by a lock: in the next run it knows nothing of that,
-        // and nor does the lock.
-        x = with(0, FORK, 1, SYNC, 0, END, 0, WRITE, 0, SYNC, 0, END, 0);
-        body(x, 0, WRITE, 0, SYNC, 0, END, 0);
+    private static void startForgetsClocks() {
+        Loom x = new Loom("7: (another one ends): its accesses do not race with those of the next one");
+        x.body("WRITE 0");
+        x.body("FORK 0, FORK 0");
+        x.start(1, 1);
+        x.steps(0, 0, 1, 2);
+        x.races(1);
         x.start(0, 1);
-        steps(x, 0, 1, 1, 1, 0, 0, 0, 0, 0);
-        due("7: before by the lock", x.count(2), 0);
+        x.steps(0);
+        x.races(0);
+        x.start(1, 1);
+        x.steps(0, 0, 2, 1);
+        x.races(1);
+        x.race(0, 3, 1, 0, 1);
+
+        x = new Loom("7: (another one ends): its reads do not race with the next one's");
+        x.body("READ 0");
+        x.body("FORK 0, FORK 0");
+        x.body("WRITE 0");
+        x.start(1, 1);
+        x.steps(0, 0, 1, 2);
+        x.start(2, 1);
+        x.steps(0);
+        x.races(0);
+
+        x = new Loom("7: (another one ends): what was before by it is not before in the next one");
+        x.body("FORK 1, SYNC 0, END, WRITE 0, SYNC 0, END");
+        x.body("WRITE 0, SYNC 0, END");
         x.start(0, 1);
-        steps(x, 0, 0, 0, 1, 0);
-        due("7: not before by a lock of an earlier run", x.count(2), 1);
-        race(x, 0, 4, 0, 0, 1);
+        x.steps(0, 1, 1, 1, 0, 0, 0, 0, 0);
+        x.races(0);
+        x.start(0, 1);
+        x.steps(0, 0, 0, 1, 0);
+        x.races(1);
+        x.race(0, 4, 0, 0, 1);
+
+        x = new Loom("7: (another one ends): other threads than thread 0 know nothing of it either");
+        x.body("FORK 1, FORK 2, FORK 2, FORK 2, FORK 2, SET 0, SET 0");
+        x.body("SYNC 0, END, WRITE 0");
+        x.body("WRITE 0, SYNC 0, END");
+        for (int writer = 2; writer < 6; writer++) {
+            x.start(0, 1);
+            x.stepsOf(0, 7);
+            x.stepsOf(writer, 3);
+            x.stepsOf(1, 3);
+            x.races(0);
+            x.start(0, 1);
+            x.stepsOf(0, 5);
+            x.steps(1, 1, writer, 1);
+            x.races(1);
+            x.race(0, 8, 1, 0, 1);
+        }
+
+        x = new Loom("7: (another one ends): thread 0 knows of no other one's steps");
+        x.body("FORK 1, SYNC 0, END, WRITE 0");
+        x.body("SYNC 0, WRITE 0, END");
+        x.start(0, 1);
+        x.steps(0, 1, 1, 1, 0, 0, 0);
+        x.races(0);
+        x.body("FORK 3, WRITE 0");
+        x.body("WRITE 0");
+        x.start(2, 1);
+        x.steps(0, 1, 0);
+        x.race(0, 2, 0, 0, 1);
+    }
+
+    private static void startForgetsDepthAndTimes() {
+        Loom x = new Loom("7: (another one ends): locks free, however often they were taken");
+        x.body("SYNC 0, SYNC 0, SYNC 0, END, END, END");
+        x.body("SYNC 0, END");
+        x.start(0, 0);
+        x.stepsOf(0, 3);
+        x.start(1, 0);
+        x.steps(0, 0);
+        x.holder(0, NONE);
+        x.state(0, DONE);
+
+        x = new Loom("7: (another one ends): thread 0 begins a body, within no other one");
+        x.body("ADD 1, CALL 0, ADD 10");
+        x.start(0, 0);
+        x.stepsOf(0, 16);
+        x.start(0, 0);
+        x.stepsOf(0, 16);
+        x.has(0, 8);
+        x.stepsOf(0, 8);
+        x.has(0, 88);
+        x.state(0, DONE);
+
+        x = new Loom("7: (another one ends): threads made anew begin at the beginning");
+        x.body("FORK 1");
+        x.body("ADD 1, CALL 2, ADD 2");
+        x.body("ADD 4, ADD 8");
+        x.start(0, 0);
+        x.steps(0, 1, 1, 1);
+        x.start(0, 100);
+        x.steps(0);
+        x.has(1, 100);
+        x.stepsOf(1, 5);
+        x.has(1, 115);
+        x.state(1, DONE);
+    }
+
+    private static void startFalse() {
+        Loom x = new Loom("7: false, and nothing happens, if there is no such body");
+        x.noStart(0, 1);
+        x.body("FORK 0, SYNC 1, WRITE 4, SET 7, END");
+        for (int body : Loom.outside(1)) {
+            x.noStart(body, 1);
+            x.count(0, NONE);
+        }
+        x.start(0, 3);
+        x.steps(0, 0, 0, 1);
+        x.waits(1);
+        x.steps(0, 0, 2, 2, 2);
+        int[] before = x.look();
+        for (int body : Loom.outside(1)) {
+            x.noStart(body, 9);
+        }
+        x.looksLike(before);
+        x.steps(2, 2);
+        x.state(2, DONE);
+        x.noBody("END");
+        x.noStart(1, 0);
+    }
+
+    private static void startLeavesTheRest() {
+        Loom x = new Loom("7: A run begins: bodies, guards and the text stay");
+        x.guard(0, 2);
+        x.body("READ 0");
+        x.body(4, "WRITE 0");
+        x.text("SET 8");
+        x.start(1, 0);
+        x.check(0, 0);
+        x.check(1, 1);
+        x.check(2, NONE);
+        x.statement(3, 9, 2);
+        x.body("");
+        x.path(2, 0, 8, 9);
     }
 
     // Promise 8
 
-    private static void stepRefusals() {
-        LockLoom x = with(0, FORK, 1, SET, 4);
-        due("8: no run", x.step(0), NONE);
-        body(x, 0, ADD, 1);
+    private static void stepOne() {
+        Loom x = new Loom("8: A step of a thread: 1");
+        x.body("FORK 1, ADD 1, ADD 2");
+        x.body("ADD 10, ADD 20");
+        x.start(0, 0);
+        x.steps(0);
+        x.steps(1);
+        x.has(0, 0);
+        x.has(1, 10);
+        x.steps(0);
+        x.has(0, 1);
+        x.has(1, 10);
+        x.stepsDone(3);
+        x.steps(1, 0);
+        x.has(0, 3);
+        x.has(1, 30);
+        x.stepsDone(5);
+    }
+
+    private static void stepWaits() {
+        Loom x = new Loom("8: 0 if it waits");
+        x.body("FORK 1, SYNC 0, SYNC 1, END, END");
+        x.body("SYNC 1, SYNC 0, END, END");
+        x.start(0, 0);
+        x.steps(0, 0, 1);
+        int[] before = x.look();
+        for (int i = 0; i < 5; i++) {
+            x.waits(0);
+            x.waits(1);
+        }
+        x.looksLike(before);
+        x.stepsDone(3);
+    }
+
+    private static void stepWithoutARun() {
+        Loom x = new Loom("8: NONE, and nothing happens, if there is no run");
+        x.body("SET 1");
+        x.noStep(0);
+        x.noStart(1, 0);
+        for (int thread : Loom.outside(1)) {
+            x.noStep(thread);
+        }
+        x.noStep(0);
+        x.count(1, NONE);
         x.start(0, 5);
-        due("8: no thread 1", x.step(1), NONE);
-        for (int far : FAR) {
-            due("8: no such thread", x.step(far), NONE);
-        }
-        due("8: nothing happened", x.count(1), 0);
-        steps(x, 0, 1);
-        due("8: done", x.step(1), NONE);
-        due("8: no thread 2", x.step(2), NONE);
-        due("8: steps", x.count(1), 2);
-        due("8: has", x.has(1), 6);
-        steps(x, 0);
-        due("8: done", x.step(0), NONE);
-        due("8: steps", x.count(1), 3);
+        x.has(0, 5);
+        x.stepsDone(0);
     }
 
-    private static void stepArithmetic() {
-        LockLoom x = with(0, WRITE, 7, ADD, 5, WRITE, 0, SET, -9, READ, 7, ADD, -1, READ, 0, READ, 3);
-        x.start(0, Integer.MAX_VALUE);
-        steps(x, 0);
-        due("8: WRITE", x.cell(7), Integer.MAX_VALUE);
-        due("8: it still has it", x.has(0), Integer.MAX_VALUE);
-        steps(x, 0);
-        due("8: ADD goes round", x.has(0), Integer.MIN_VALUE + 4);
-        due("8: ADD leaves the cell", x.cell(7), Integer.MAX_VALUE);
-        steps(x, 0, 0);
-        due("8: SET", x.has(0), -9);
-        steps(x, 0);
-        due("8: READ", x.has(0), Integer.MAX_VALUE);
-        steps(x, 0, 0);
-        due("8: READ of another", x.has(0), Integer.MIN_VALUE + 4);
-        due("8: READ leaves the cell", x.cell(0), Integer.MIN_VALUE + 4);
-        steps(x, 0);
-        due("8: READ of one never written", x.has(0), 0);
-        due("8: done", x.state(0), 2);
-    }
-
-    private static void stepIfElse() {
-        LockLoom x = with(0, IF, 0, ADD, 10, ELSE, 0, SET, 20, END, 0, ADD, 100);
-        body(x, 0, IF, 0, ADD, 4, END, 0, ADD, 100);
-        hasAfterSteps(x, 0, 1, 1, 11, 11, 111);
-        hasAfterSteps(x, 0, -1, -1, 9, 9, 109);
-        hasAfterSteps(x, 0, 0, 0, 20, 20, 120);
-        hasAfterSteps(x, 1, 1, 1, 5, 5, 105);
-        hasAfterSteps(x, 1, 0, 0, 100);
-        hasAfterSteps(x, 0, 1, 1, 11, 11, 111);
-        due("8: a block's number does not matter", x.count(0), 1);
-        // An IF within each half of another one.
-        body(x, 0, IF, 0, IF, 0, SET, 0, ELSE, 0, SET, 1, END, 0, ELSE, 0, IF, 0, SET, 2, ELSE, 0, SET, 3, END, 0, END, 0);
-        hasAfterSteps(x, 2, 9, 9, 9, 0, 0, 0);
-        hasAfterSteps(x, 2, 0, 0, 0, 3, 3, 3);
-    }
-
-    private static void hasAfterSteps(LockLoom x, int body, int has, int... after) {
-        due("8: start", x.start(body, has), true);
-        for (int i = 0; i < after.length; i++) {
-            due("8: not done before step " + i, x.state(0), 0);
-            due("8: step " + i, x.step(0), 1);
-            due("8: has after step " + i, x.has(0), after[i]);
-        }
-        due("8: done", x.state(0), 2);
-    }
-
-    private static void stepWhile() {
-        LockLoom x = with(0, WHILE, 0, ADD, -1, END, 0, SET, 40);
-        x.start(0, 0);
-        steps(x, 0, 0);
-        due("8: WHILE with 0", x.has(0), 40);
-        due("8: done", x.state(0), 2);
-        x.start(0, 2);
-        steps(x, 0, 0, 0, 0, 0);
-        due("8: twice", x.has(0), 0);
-        steps(x, 0, 0);
-        due("8: before the SET", x.has(0), 0);
-        steps(x, 0);
-        due("8: behind", x.has(0), 40);
-        due("8: done", x.step(0), NONE);
-        due("8: steps", x.count(1), 8);
-        body(x, 0, WHILE, 0, IF, 0, SYNC, 3, SET, 0, END, 0, ELSE, 0, ADD, 9, END, 0, END, 0);
-        x.start(1, -1);
-        steps(x, 0, 0, 0, 0);
-        due("8: SYNC within", x.holder(3), 0);
-        steps(x, 0);
-        due("8: END of the SYNC", x.holder(3), NONE);
-        steps(x, 0, 0, 0);
-        due("8: not the ELSE's", x.has(0), 0);
-        due("8: done", x.state(0), 2);
-        body(x, 0, WHILE, 0, END, 0);
-        x.start(2, 1);
-        for (int i = 0; i < 50; i++) {
-            due("8: without an end", x.step(0), 1);
-        }
-        due("8: goes on", x.state(0), 0);
-    }
-
-    private static void stepLocks() {
-        LockLoom x = with(0, FORK, 0, SYNC, 0, SYNC, 0, SYNC, 1, END, 0, END, 0, END, 0);
-        x.start(0, 0);
-        steps(x, 0, 1, 0, 0, 0);
-        due("8: lock 0", x.holder(0), 0);
-        due("8: lock 1", x.holder(1), 0);
-        due("8: lock 2", x.holder(2), NONE);
-        due("8: waits", x.step(1), 0);
-        due("8: waits again", x.step(1), 0);
-        due("8: waiting is no step", x.count(1), 5);
-        steps(x, 0);
-        due("8: lock 1 is free", x.holder(1), NONE);
-        steps(x, 0);
-        due("8: once less", x.holder(0), 0);
-        due("8: waits still", x.step(1), 0);
-        steps(x, 0);
-        due("8: free", x.holder(0), NONE);
-        steps(x, 1);
-        due("8: taken", x.holder(0), 1);
-        steps(x, 2);
-        due("8: the third waits", x.step(2), 0);
-    }
-
-    private static void stepFork() {
-        LockLoom x = with(0, FORK, 5, FORK, 1, FORK, 2, ADD, 1);
-        body(x, 0, ADD, 100);
-        x.body(0);
-        x.start(0, 7);
-        steps(x, 0);
-        due("8: FORK of none", x.count(0), 1);
-        steps(x, 0);
-        due("8: FORK", x.count(0), 2);
-        due("8: with what it has", x.has(1), 7);
-        due("8: it goes on", x.state(1), 0);
-        steps(x, 0);
-        due("8: FORK of an empty one", x.count(0), 3);
-        due("8: is done", x.state(2), 2);
-        due("8: with what it has", x.has(2), 7);
-        steps(x, 1, 0);
-        due("8: each has its own", x.has(0), 8);
-        due("8: each has its own", x.has(1), 107);
-
-        x = with(0, FORK, 1);
-        x.start(0, 0);
-        due("8: a body that comes during the run", body(x, 0, SET, 3), 1);
-        steps(x, 0, 1);
-        due("8: is there", x.has(1), 3);
-    }
-
-    private static void stepForkLimit() {
-        LockLoom x = with(0, FORK, 1, FORK, 1, FORK, 1, FORK, 1, FORK, 1, FORK, 1, SET, 9);
-        x.body(0);
-        x.start(0, 2);
-        for (int i = 1; i <= 5; i++) {
-            steps(x, 0);
-            due("8: threads", x.count(0), i + 1);
-        }
-        steps(x, 0);
-        due("8: FORK with 6 threads", x.count(0), 6);
-        due("8: no thread 6", x.state(6), NONE);
-        due("8: it goes on", x.state(0), 0);
-        steps(x, 0);
-        due("8: behind it", x.has(0), 9);
-    }
-
-    private static void stepCall() {
-        LockLoom x = with(0, CALL, 1, ADD, 1, CALL, 7, CALL, 2, CALL, 1);
-        body(x, 0, ADD, 10, CALL, 3);
-        x.body(0);
-        body(x, 0, SYNC, 0, WRITE, 5, END, 0);
-        x.start(0, 0);
-        steps(x, 0);
-        due("8: CALL alone", x.has(0), 0);
-        steps(x, 0, 0, 0);
-        due("8: a lock in a called body", x.holder(0), 0);
-        steps(x, 0, 0);
-        due("8: the called body's WRITE", x.cell(5), 10);
-        steps(x, 0);
-        due("8: behind the CALL", x.has(0), 11);
-        steps(x, 0, 0);
-        due("8: CALLs of none and of an empty one", x.count(1), 9);
-        steps(x, 0, 0);
-        due("8: called again", x.has(0), 21);
-        steps(x, 0, 0, 0, 0);
-        due("8: at the end of all", x.state(0), 2);
-        due("8: steps", x.count(1), 15);
-
-        // The lock is taken round the CALL, and once more within.
-        x = with(0, SYNC, 1, CALL, 1, END, 0);
-        body(x, 2, SYNC, 1, END, 0);
-        x.start(0, 0);
-        steps(x, 0, 0, 0, 0);
-        due("8: held still", x.holder(1), 0);
-        steps(x, 0);
-        due("8: free", x.holder(1), NONE);
-    }
-
-    private static void stepCallLimit() {
-        LockLoom x = with(0, CALL, 0, ADD, 1);
-        x.start(0, 0);
-        for (int i = 0; i < 7; i++) {
-            steps(x, 0);
-            due("8: deeper", x.has(0), 0);
-        }
-        steps(x, 0);
-        due("8: CALL with 8 bodies", x.has(0), 0);
-        for (int i = 1; i <= 8; i++) {
-            due("8: goes on", x.state(0), 0);
-            steps(x, 0);
-            due("8: back again", x.has(0), i);
-        }
-        due("8: done", x.state(0), 2);
-        due("8: steps", x.count(1), 16);
-    }
-
-    // The document names this edge, though 512 calls do not reach it.
-    private static void stepLimit() {
-        LockLoom x = with(0, FORK, 1, SYNC, 0, WHILE, 0, END, 0, END, 0);
-        body(x, 0, SYNC, 0, END, 0);
-        x.start(0, 1);
-        steps(x, 0, 0);
-        for (int i = 2; i < 4000; i++) {
-            if (i % 1000 == 0) {
-                due("8: waits", x.step(1), 0);
+    private static void stepOfNoThread() {
+        Loom x = new Loom("8: NONE, and nothing happens, if there is no such thread");
+        x.body("FORK 1, FORK 1, FORK 1, FORK 1, FORK 1, SET 9");
+        x.body("SET 4");
+        x.start(0, 5);
+        for (int threads = 1; threads <= 6; threads++) {
+            for (int thread : Loom.outside(threads)) {
+                x.noStep(thread);
             }
-            due("8: step " + i, x.step(0), 1);
+            x.stepsDone(threads - 1);
+            x.threads(threads);
+            x.has(0, 5);
+            x.steps(0);
         }
-        due("8: 4,000 steps", x.count(1), 4000);
-        due("8: no step more", x.step(0), NONE);
-        due("8: not even one that waits", x.step(1), NONE);
-        due("8: still 4,000", x.count(1), 4000);
+        x.has(0, 9);
     }
 
-    // Promises 9 and 10
-
-    private static void hasAndCell() {
-        LockLoom x = with(0, FORK, 1, SET, 6, WRITE, 2);
-        body(x, 0, ADD, 4, WRITE, 3);
-        due("9: no run", x.has(0), 0);
-        due("10: no run", x.cell(2), 0);
+    private static void stepOfADoneThread() {
+        Loom x = new Loom("8: NONE, and nothing happens, if it is done");
+        x.body("FORK 1, SET 4, WRITE 0");
+        x.body("ADD 1");
         x.start(0, 5);
-        due("9: at the start", x.has(0), 5);
-        due("9: no thread 1", x.has(1), 0);
-        steps(x, 0, 1, 1, 0, 0);
-        due("9: of a done one", x.has(0), 6);
-        due("9: of another", x.has(1), 9);
-        due("9: no thread 2", x.has(2), 0);
-        due("9: no thread 6", x.has(6), 0);
-        due("10: cell 2", x.cell(2), 6);
-        due("10: cell 3", x.cell(3), 9);
-        due("10: cell 1", x.cell(1), 0);
-        due("10: no cell 8", x.cell(8), 0);
-        for (int far : FAR) {
-            due("9: no such thread", x.has(far), 0);
-            due("10: no such cell", x.cell(far), 0);
-        }
+        x.steps(0, 1);
+        int[] before = x.look();
+        x.noStep(1);
+        x.noStep(1);
+        x.looksLike(before);
+        x.steps(0, 0);
+        before = x.look();
+        x.noStep(0);
+        x.noStep(1);
+        x.looksLike(before);
+        x.stepsDone(4);
     }
 
-    // Promise 11
-
-    private static void holders() {
-        LockLoom x = with(0, FORK, 1, SYNC, 3, END, 0);
-        body(x, 0, SYNC, 0, END, 0);
-        x.start(0, 0);
-        steps(x, 0, 0, 1);
-        due("11: lock 3", x.holder(3), 0);
-        due("11: lock 0", x.holder(0), 1);
-        due("11: lock 1", x.holder(1), NONE);
-        due("11: no lock 4", x.holder(4), NONE);
-        for (int far : FAR) {
-            due("11: no such lock", x.holder(far), NONE);
+    // The document names this edge, though the 512 calls that it speaks of do not reach it.
+    private static void stepsFull() {
+        Loom x = new Loom("8: NONE, and nothing happens, if 4,000 steps (without waiting) were done").withoutLimit();
+        x.body("FORK 1, SYNC 0, WHILE, ADD 1, END, END");
+        x.body("SYNC 0, END");
+        x.start(0, 1);
+        x.steps(0, 0);
+        for (int i = 2; i < 3999; i++) {
+            if (i % 500 == 0) {
+                x.waits(1);
+            }
+            x.steps(0);
         }
-        steps(x, 0, 1);
-        due("11: free", x.holder(3), NONE);
-        due("11: free", x.holder(0), NONE);
+        x.stepsDone(3999);
+        x.waits(1);
+        x.steps(0);
+        x.stepsDone(4000);
+        int[] before = x.look();
+        x.noStep(0);
+        x.noStep(1);
+        x.noStep(2);
+        x.looksLike(before);
+        // Another run has its own 4,000.
+        x.start(1, 0);
+        x.steps(0, 0);
+        x.stepsDone(2);
     }
 
-    // Promise 12
+    // Promises 9 to 12
 
-    private static void states() {
-        LockLoom x = with(0, FORK, 1, SYNC, 2, SYNC, 2, END, 0, END, 0);
-        body(x, 0, SYNC, 2, END, 0);
-        due("12: no run", x.state(0), NONE);
-        x.start(0, 0);
-        due("12: no thread 1", x.state(1), NONE);
-        steps(x, 0);
-        due("12: before a free lock", x.state(1), 0);
-        steps(x, 0);
-        due("12: would wait", x.state(1), 1);
-        due("12: before its own lock", x.state(0), 0);
-        steps(x, 0, 0);
-        due("12: would wait still", x.state(1), 1);
-        steps(x, 0);
-        due("12: can go on", x.state(1), 0);
-        due("12: done", x.state(0), 2);
-        steps(x, 1);
-        due("12: within", x.state(1), 0);
-        steps(x, 1);
-        due("12: done too", x.state(1), 2);
-        due("12: asking is no step", x.count(1), 7);
-        due("12: no thread 2", x.state(2), NONE);
-        for (int far : FAR) {
-            due("12: no such thread", x.state(far), NONE);
+    private static void hasOfThreads() {
+        Loom x = new Loom("9: What a thread has; 0 if there is none such");
+        x.has(0, 0);
+        x.body("FORK 1, FORK 1, FORK 1, FORK 1, FORK 1");
+        x.body("ADD 4");
+        x.has(0, 0);
+        x.start(0, 5);
+        for (int threads = 1; threads <= 6; threads++) {
+            for (int thread : Loom.outside(threads)) {
+                x.has(thread, 0);
+            }
+            for (int t = 0; t < threads; t++) {
+                x.has(t, 5);
+            }
+            if (threads < 6) {
+                x.steps(0);
+            }
         }
+        x.steps(5, 2);
+        x.has(5, 9);
+        x.has(2, 9);
+        x.has(1, 5);
+        x.state(0, DONE);
+        x.has(0, 5);
+    }
+
+    private static void cellOfARun() {
+        Loom x = new Loom("10: What is in a cell; 0 if there is none such");
+        for (int c = 0; c < 8; c++) {
+            x.text("WRITE " + c);
+        }
+        x.body("");
+        x.start(0, -3);
+        for (int c = 0; c < 8; c++) {
+            x.cell(c, 0);
+            x.steps(0);
+            x.cell(c, -3);
+        }
+        for (int c : Loom.outside(8)) {
+            x.cell(c, 0);
+        }
+        x = new Loom("10: 0 if there is no run");
+        x.body("WRITE 0");
+        for (int c = -1; c < 9; c++) {
+            x.cell(c, 0);
+        }
+        x.noStart(1, 7);
+        x.cell(0, 0);
+    }
+
+    private static void holderOfALock() {
+        Loom x = new Loom("11: The thread that has a lock; NONE if it is free, or there is none such");
+        for (int l = -1; l < 5; l++) {
+            x.holder(l, NONE);
+        }
+        x.body("FORK 1, FORK 1, FORK 1, FORK 1, FORK 1, SYNC 3, END");
+        x.body("SYNC 0, SYNC 0, END, END");
+        x.start(0, 0);
+        x.holder(0, NONE);
+        x.holder(3, NONE);
+        x.stepsOf(0, 6);
+        x.holder(3, 0);
+        for (int t = 5; t > 0; t--) {
+            x.holder(0, NONE);
+            for (int i = 0; i < 3; i++) {
+                x.steps(t);
+                x.holder(0, t);
+            }
+            x.steps(t);
+        }
+        x.holder(0, NONE);
+        x.holder(1, NONE);
+        x.holder(2, NONE);
+        for (int lock : Loom.outside(4)) {
+            x.holder(lock, NONE);
+        }
+        x.steps(0);
+        x.holder(3, NONE);
+    }
+
+    private static void stateOfThreads() {
+        Loom x = new Loom("12: 0 it can go on, 1 it would wait now, 2 it is done");
+        x.body("FORK 1, SYNC 2, SYNC 2, END, END");
+        x.body("SYNC 2, END, SET 1");
+        x.start(0, 0);
+        x.state(0, GOES_ON);
+        x.steps(0);
+        x.state(1, GOES_ON);
+        x.steps(0);
+        x.state(1, WAITS);
+        x.state(0, GOES_ON);
+        x.steps(0);
+        x.state(1, WAITS);
+        x.waits(1);
+        x.state(1, WAITS);
+        x.steps(0);
+        x.state(1, WAITS);
+        x.state(0, GOES_ON);
+        x.steps(0);
+        x.state(1, GOES_ON);
+        x.state(0, DONE);
+        x.steps(1);
+        x.state(1, GOES_ON);
+        x.steps(1);
+        x.state(1, GOES_ON);
+        x.steps(1);
+        x.state(1, DONE);
+        x.stepsDone(8);
+
+        x = new Loom("12: 1 it would wait now, by the lock of its own SYNC, and no other kind's");
+        x.body("FORK 1, FORK 2, FORK 3, SYNC 1, END");
+        x.body("SYNC 0, END");
+        x.body("READ 1, WRITE 1, ADD 1, SET 1, IF, ELSE, END");
+        x.body("CALL 1, WHILE, END");
+        x.start(0, 0);
+        x.stepsOf(0, 4);
+        x.state(1, GOES_ON);
+        for (int i = 0; i < 6; i++) {
+            x.state(2, GOES_ON);
+            x.steps(2);
+        }
+        x.state(2, DONE);
+        x.state(3, GOES_ON);
+        x.steps(1);
+        x.steps(3);
+        x.state(3, WAITS);
+
+        x = new Loom("12: NONE if there is none such");
+        x.state(0, NONE);
+        x.body("FORK 1, FORK 1, FORK 1, FORK 1, FORK 1");
+        x.body("");
+        x.state(0, NONE);
+        x.start(0, 0);
+        for (int threads = 1; threads <= 6; threads++) {
+            for (int thread : Loom.outside(threads)) {
+                x.state(thread, NONE);
+            }
+            if (threads < 6) {
+                x.state(0, GOES_ON);
+                x.steps(0);
+            }
+        }
+        x.state(0, DONE);
+        x.state(5, DONE);
     }
 
     // Promise 13
 
-    private static void counts() {
-        LockLoom x = with(0, FORK, 1, WRITE, 0, SET, 1);
-        body(x, 0, WRITE, 0);
-        due("13: no run", x.count(0), NONE);
+    private static void countOfARun() {
+        Loom x = new Loom("13: How many threads there are (what 0), steps were done (1), accesses raced (2)");
+        x.body("FORK 1, WRITE 0, SET 1, FORK 1, FORK 7");
+        x.body("SYNC 0, WRITE 0, END");
         x.start(0, 0);
-        steps(x, 0, 0, 1);
-        due("13: threads", x.count(0), 2);
-        due("13: steps", x.count(1), 3);
-        due("13: races", x.count(2), 1);
-        due("13: another what", x.count(3), NONE);
-        for (int far : FAR) {
-            due("13: another what", x.count(far), NONE);
+        int[] order = {0, 0, 1, 1, 0, 0, 1, 2, 2, 0};
+        int[] threads = {2, 2, 2, 2, 2, 3, 3, 3, 3, 3};
+        int[] races = {0, 0, 0, 1, 1, 1, 1, 1, 1, 1};
+        for (int i = 0; i < order.length; i++) {
+            x.steps(order[i]);
+            x.count(0, threads[i]);
+            x.count(1, i + 1);
+            x.count(2, races[i]);
         }
+        for (int what : Loom.outside(3)) {
+            x.count(what, NONE);
+        }
+        x = new Loom("13: NONE without a run");
+        x.body("SET 1");
+        for (int what = -1; what < 4; what++) {
+            x.count(what, NONE);
+        }
+        x.noStart(1, 0);
+        x.count(0, NONE);
+        x.start(0, 0);
+        x.count(0, 1);
+        x.count(1, 0);
+        x.count(2, 0);
     }
 
     // Promise 14
 
-    private static void racesOfKinds() {
-        int[] kinds = {READ, WRITE};
-        for (int first : kinds) {
-            for (int second : kinds) {
-                for (int cell = 4; cell < 6; cell++) {
-                    LockLoom x = with(0, FORK, 1, first, 4);
-                    body(x, 0, second, cell);
-                    x.start(0, 0);
-                    steps(x, 0, 0, 1);
-                    boolean races = cell == 4 && (first == WRITE || second == WRITE);
-                    due("14: two accesses", x.count(2), races ? 1 : 0);
-                    due("14: the later one", x.race(0, 1), races ? 1 : NONE);
-                    due("14: its kind", x.race(0, 3), races ? second : NONE);
-                }
+    private static void raceParts() {
+        Loom x = new Loom("14: what 0: which step it was, from 0 on, 1: the thread, 2: the cell, 3: 1 if it was a WRITE, else 0");
+        x.noRace(0);
+        x.body("FORK 1, READ 6, WRITE 6, READ 6, WRITE 0");
+        x.body("READ 6, WRITE 6, READ 0");
+        x.noRace(0);
+        x.start(0, 0);
+        x.steps(0, 0, 1);
+        x.noRace(0);
+        x.steps(0, 1, 0, 0, 1);
+        x.races(4);
+        x.race(0, 3, 0, 6, 1);
+        x.race(1, 4, 1, 6, 1);
+        x.race(2, 5, 0, 6, 0);
+        x.race(3, 7, 1, 0, 0);
+        for (int i = 0; i < 4; i++) {
+            for (int what : Loom.outside(4)) {
+                x.racePart(i, what, NONE);
             }
         }
-        LockLoom x = with(0, FORK, 1, READ, 6, WRITE, 6, READ, 6);
-        body(x, 0, READ, 6, WRITE, 6);
-        due("14: no run", x.race(0, 0), NONE);
-        x.start(0, 0);
-        steps(x, 0, 0, 1, 0, 1, 0);
-        due("14: races", x.count(2), 3);
-        race(x, 0, 3, 0, 6, 1);
-        race(x, 1, 4, 1, 6, 1);
-        race(x, 2, 5, 0, 6, 0);
-        due("14: no race 3", x.race(3, 0), NONE);
-        due("14: another what", x.race(0, 4), NONE);
-        for (int far : FAR) {
-            due("14: no such race", x.race(far, 0), NONE);
-            due("14: no such what", x.race(0, far), NONE);
+        for (int i : Loom.outside(4)) {
+            for (int what = -1; what <= 4; what++) {
+                x.racePart(i, what, NONE);
+            }
         }
+        x.race(3, 7, 1, 0, 0);
     }
 
-    private static void racesAndForks() {
-        // What its maker did before the FORK is before; what it does after is not.
-        LockLoom x = with(0, WRITE, 0, FORK, 1, WRITE, 1);
-        body(x, 0, WRITE, 0, FORK, 2, READ, 1);
-        body(x, 0, WRITE, 0, WRITE, 1);
+    private static void racesAsTheyCame() {
+        Loom x = new Loom("14: Of race i, from 0 on, as they came");
+        x.body("FORK 1, WRITE 0, WRITE 1, WRITE 2, WRITE 3");
+        x.body("READ 3, READ 1, WRITE 2, WRITE 0");
         x.start(0, 0);
-        steps(x, 0, 0, 1, 0, 1, 2);
-        due("14: before by FORKs", x.count(2), 0);
-        steps(x, 1);
-        due("14: after the FORK", x.count(2), 1);
-        race(x, 0, 6, 1, 1, 0);
-        steps(x, 2);
-        race(x, 1, 7, 2, 1, 1);
-        due("14: one race, though with two", x.count(2), 2);
-
-        // An earlier access races though a later one of a third thread does not.
-        x = with(0, FORK, 1, WRITE, 0, FORK, 1);
-        body(x, 0, WRITE, 0);
+        x.stepsOf(0, 5);
+        x.stepsOf(1, 4);
+        x.race(0, 5, 1, 3, 0);
+        x.race(1, 6, 1, 1, 0);
+        x.race(2, 7, 1, 2, 1);
+        x.race(3, 8, 1, 0, 1);
+        x.noRace(4);
+        // Of this run alone.
         x.start(0, 0);
-        steps(x, 0, 1, 0);
-        race(x, 0, 2, 0, 0, 1);
-        steps(x, 0, 2);
-        race(x, 1, 4, 2, 0, 1);
-        due("14: races", x.count(2), 2);
+        x.noRace(0);
+        x.steps(0, 1, 0, 0, 1, 0, 0);
+        x.races(2);
+        x.race(0, 4, 1, 1, 0);
+        x.race(1, 6, 0, 3, 1);
+        x.noRace(2);
     }
 
-    private static void racesAndLocks() {
-        int[] locked = {SYNC, 1, WRITE, 0, END, 0};
-        LockLoom x = with(0, FORK, 1, FORK, 1, FORK, 1, SYNC, 1, WRITE, 0, END, 0);
-        body(x, 0, locked);
-        x.start(0, 0);
-        steps(x, 0, 0, 0, 2, 2, 2, 0, 0, 0, 3, 3, 3, 1, 1, 1);
-        due("14: one lock for all", x.count(2), 0);
-
-        x = with(0, FORK, 1, SYNC, 2, WRITE, 0, END, 0);
-        body(x, 0, locked);
-        x.start(0, 0);
-        steps(x, 0, 0, 0, 0, 1, 1, 1);
-        race(x, 0, 5, 1, 0, 1);
-
-        // The inner END leaves the lock taken: what follows it is before through the outer one.
-        x = with(0, FORK, 1, SYNC, 1, SYNC, 1, END, 0, WRITE, 0, END, 0, WRITE, 2);
-        body(x, 0, SYNC, 1, WRITE, 0, WRITE, 2, END, 0);
-        x.start(0, 0);
-        steps(x, 0, 0, 0, 0, 0, 0, 1, 0, 1);
-        due("14: before the outer END", x.count(2), 0);
-        steps(x, 1);
-        race(x, 0, 9, 1, 2, 1);
-
-        // Taking it once more is no taking of a free one: nothing is before by it.
-        x = with(0, SYNC, 1, FORK, 1, WRITE, 3, SYNC, 1, END, 0, END, 0);
-        body(x, 0, WRITE, 3, SYNC, 1, READ, 3, END, 0);
-        x.start(0, 0);
-        steps(x, 0, 0, 0, 0, 0, 1);
-        race(x, 0, 5, 1, 3, 1);
-        due("14: waits", x.step(1), 0);
-        steps(x, 0, 1, 1);
-        due("14: now before", x.count(2), 1);
-
-        // END of an IF or a WHILE frees nothing.
-        x = with(0, FORK, 1, WRITE, 0, IF, 0, END, 0);
-        body(x, 0, SYNC, 0, READ, 0, END, 0);
+    private static void racesBeyond64() {
+        Loom x = new Loom("14: (the first 64 alone)");
+        x.body("FORK 1, WHILE, WRITE 7, END");
+        x.body("WHILE, READ 7, END");
         x.start(0, 1);
-        steps(x, 0, 0, 0, 0, 1, 1);
-        race(x, 0, 5, 1, 0, 0);
-
-        // Through a third thread that met the cell not at all.
-        x = with(0, FORK, 1, FORK, 2, WRITE, 0, SYNC, 0, END, 0);
-        body(x, 0, SYNC, 0, END, 0, SYNC, 1, END, 0);
-        body(x, 0, SYNC, 1, READ, 0, END, 0, READ, 0);
-        x.start(0, 0);
-        steps(x, 0, 0, 0, 0, 0, 1, 1, 1, 1, 2, 2, 2, 2);
-        due("14: through those between", x.count(2), 0);
-        x.start(0, 0);
-        steps(x, 0, 0, 1, 1, 1, 1, 0, 0, 0, 2, 2);
-        race(x, 0, 10, 2, 0, 0);
-    }
-
-    private static void racesAreKept() {
-        LockLoom x = with(0, FORK, 1, WHILE, 0, WRITE, 7, END, 0);
-        body(x, 0, WHILE, 0, READ, 7, END, 0);
-        x.start(0, 1);
-        steps(x, 0, 0, 1, 0, 0, 0);
-        int at = 6;
-        for (int i = 0; i < 70; i++) {
+        x.steps(0, 0, 1, 0);
+        // From here on each thread's access races with the other's last one.
+        int step = 4;
+        for (int i = 0; i < 67; i++) {
             int thread = i % 2 == 0 ? 1 : 0;
-            due("14: access", x.step(thread), 1);
-            due("14: races", x.count(2), i + 1);
-            if (i < 64) {
-                race(x, i, at, thread, 7, thread == 0 ? 1 : 0);
-            } else {
-                for (int what = 0; what < 4; what++) {
-                    due("14: the first 64 alone", x.race(i, what), NONE);
-                }
+            x.races(i);
+            if (i >= 62) {
+                x.racePart(i, 0, NONE);
             }
-            steps(x, thread, thread);
-            at += 3;
+            x.steps(thread);
+            if (i < 2 || i == 62 || i == 63) {
+                x.race(i, step, thread, 7, thread == 0 ? 1 : 0);
+            }
+            // END and WHILE, before its next access.
+            x.steps(1 - thread, 1 - thread);
+            step += 3;
         }
-        race(x, 0, 6, 1, 7, 0);
-        race(x, 63, 6 + 63 * 3, 0, 7, 1);
+        x.races(67);
+        for (int i = 64; i < 68; i++) {
+            x.noRace(i);
+        }
+        x.race(0, 4, 1, 7, 0);
+        x.race(63, 4 + 3 * 63, 0, 7, 1);
     }
 
     // Promise 15
 
-    private static void stuckness() {
-        LockLoom x = with(0, FORK, 1, SYNC, 0, SYNC, 1, END, 0, END, 0);
-        body(x, 0, SYNC, 1, SYNC, 0, END, 0, END, 0);
-        due("15: no run", x.stuck(), false);
+    private static void stuckOrNot() {
+        Loom x = new Loom("15: Whether no thread can go on");
+        x.stuck(false);
+        x.body("FORK 1, SYNC 0, SYNC 1, END, END");
+        x.body("SYNC 1, SYNC 0, END, END");
+        x.stuck(false);
         x.start(0, 0);
-        due("15: at the start", x.stuck(), false);
-        steps(x, 0, 0, 1);
-        due("15: both wait", x.stuck(), true);
-        due("15: thread 0", x.step(0), 0);
-        due("15: thread 1", x.step(1), 0);
-        due("15: still", x.stuck(), true);
+        x.stuck(false);
+        x.steps(0, 0);
+        x.stuck(false);
+        x.steps(1);
+        x.stuck(true);
+        x.state(0, WAITS);
+        x.state(1, WAITS);
+        x.waits(0);
+        x.waits(1);
+        x.stuck(true);
+        // Where one waits and one goes on, no.
         x.start(0, 0);
-        steps(x, 0, 0, 0);
-        due("15: one waits", x.stuck(), false);
-        due("15: it waits", x.state(1), 1);
-        steps(x, 0, 0);
-        due("15: one is done", x.stuck(), false);
-        steps(x, 1, 1, 1, 1);
-        due("15: all are done", x.stuck(), false);
-        body(x, 0, FORK, 3, FORK, 0, SET, 1);
-        x.body(0);
+        x.stuck(false);
+        x.steps(0, 0, 0);
+        x.state(1, WAITS);
+        x.stuck(false);
+
+        x = new Loom("15: Whether no thread can go on, the last one neither");
+        x.body("FORK 1, FORK 2, FORK 2, FORK 2, FORK 3, SYNC 0, SYNC 1, END, END");
+        x.body("SYNC 1, SYNC 0, END, END");
+        x.body("SYNC 0, END");
+        x.body("SET 1, SYNC 1, END");
+        x.start(0, 0);
+        x.stepsOf(0, 6);
+        x.steps(1);
+        x.stuck(false);
+        x.steps(5);
+        x.stuck(true);
+    }
+
+    private static void stuckNotDone() {
+        Loom x = new Loom("15: and not all are done");
+        x.body("FORK 1, SYNC 0, END");
+        x.body("SYNC 0, END");
+        x.start(0, 0);
+        x.steps(0, 0);
+        x.state(1, WAITS);
+        x.stuck(false);
+        x.steps(0);
+        x.state(0, DONE);
+        x.stuck(false);
+        x.steps(1, 1);
+        x.state(1, DONE);
+        x.stuck(false);
+        x.body("");
         x.start(2, 0);
-        steps(x, 0, 0, 2, 2, 3);
-        due("15: one can go on", x.stuck(), false);
-        steps(x, 0);
-        due("15: two done, two wait", x.stuck(), true);
-        x.start(3, 0);
-        due("15: an empty body", x.stuck(), false);
+        x.state(0, DONE);
+        x.stuck(false);
+
+        x = new Loom("15: and not all are done, though some are");
+        x.body("FORK 2, FORK 1, SET 1");
+        x.body("FORK 3, SYNC 0, SYNC 1, END, END");
+        x.body("");
+        x.body("SYNC 1, SYNC 0, END, END");
+        x.start(0, 0);
+        x.steps(0, 0, 2, 2, 3);
+        x.stuck(false);
+        x.steps(0);
+        x.state(0, DONE);
+        x.state(1, DONE);
+        x.state(2, WAITS);
+        x.state(3, WAITS);
+        x.stuck(true);
     }
 }
